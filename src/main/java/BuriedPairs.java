@@ -1008,9 +1008,9 @@ public final class BuriedPairs {
             breaks = 0;
             touches = 0;
             Arrays.fill(cuts, 0);
-            for (int site = 0; site < SITES; site++) {
-                setAt(comesOut, site, site);
-                setAt(goesIn, site, site);
+            for (int site = 0; site < comesOut.length && site < goesIn.length; site++) {
+                comesOut[site] = site;
+                goesIn[site] = site;
             }
             int undone = 0;
             for (int trouble = 0; trouble < its.troubles.size(); trouble++) {
@@ -1144,7 +1144,7 @@ public final class BuriedPairs {
             return 4 * gone;
         }
 
-        private int wireBehind(int wire, int end) {
+        int wireBehind(int wire, int end) {
             if (end == NEAR) {
                 return valueAt(layout.onward, valueAt(comesOut, wire));
             }

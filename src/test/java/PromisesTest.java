@@ -439,6 +439,10 @@ public final class PromisesTest {
         Check.due("wet and cut: both by one", town.served(0, 3, true), 512);
         town.slip(0, 1, 0, 0, 3, 0);
         Check.due("two houses on a wire", town.served(0, 0, false), 4 | 512);
+        town.slip(0, 1, 0, 0, 0, 0);
+        Check.due("house 0 is one of two", town.served(0, 0, false), 4 | 512);
+        town.slip(0, 1, 1, 2, 1, 0);
+        Check.due("house 0 is alone", town.served(0, 0, false), 1 | 4 | 512);
         Check.due("no world", town.served(0, 4, false), NONE);
         Check.due("no world -1", town.served(0, -1, false), NONE);
         Check.due("no plan", town.served(1, 0, false), NONE);
@@ -455,10 +459,15 @@ public final class PromisesTest {
         Check.due("dry", town.neighbours(0, 1, false, 2), 0);
         Check.due("wet, cut between", town.neighbours(0, 3, true, 2), 0);
         Check.due("wet, cut, still on one wire", town.neighbours(0, 3, true, 1), 512);
+        town.trouble(0, 0, 1, 1, 2, 0);
+        town.slip(0, 1, 1, 2, 0, 0);
+        Check.due("0 and 2 have changed wires", town.neighbours(0, 5, true, 0), 2 | 512);
+        Check.due("so 2 hears none", town.neighbours(0, 5, true, 2), 0);
+        Check.due("9 hears 0", town.neighbours(0, 5, true, 9), 1 | 2);
         Check.due("it hangs nowhere", town.neighbours(0, 0, false, 3), NONE);
         Check.due("no house", town.neighbours(0, 0, false, 10), NONE);
         Check.due("no house -1", town.neighbours(0, 0, false, -1), NONE);
-        Check.due("no world", town.neighbours(0, 4, false, 1), NONE);
+        Check.due("no world", town.neighbours(0, 8, false, 1), NONE);
         Check.due("no plan", town.neighbours(1, 0, false, 1), NONE);
     }
 
@@ -699,6 +708,8 @@ public final class PromisesTest {
         Check.due("just far enough", town.next(0, false, 3, 30), 4);
         Check.due("not so far", town.next(0, false, 3, 29), 1);
         Check.due("no metre", town.next(0, false, 3, 0), 1);
+        Check.due("the same as parts tells", town.parts(0, 1, false, 0), 3);
+        Check.due("and for the better one", town.parts(0, 4, false, 0), 2);
         Check.due("no metre, nothing there", town.next(0, false, 4, 0), NONE);
         Check.due("no way but to the lone ones", town.next(0, false, 6, 1000), 0);
         Check.due("where it parts nothing", town.next(0, false, 5, 0), 0);
@@ -890,6 +901,17 @@ public final class PromisesTest {
         town.want(0, 1, 0);
         Check.due("pair 0 is cut: aside, then it ends", town.moves(0, 1, 1, NONE), 1);
         Check.due("0 steps aside", town.moves(0, 1, 1, 0), 2);
+        BuriedPairs once = Check.town("b 2;c 0 1 4 9;h 0 0 0;h 0 1 1");
+        once.trouble(0, 1, 0, 3, 0, 4);
+        once.want(0, 0, 1);
+        once.want(0, 1, 3);
+        Check.due("one steps aside once, though the other stays", once.moves(0, 1, 1, NONE), 1);
+        Check.due("to the lowest free pair", once.moves(0, 1, 1, 0), 2);
+        Check.due("uncut, both come home", once.moves(0, 0, 1, NONE), 2);
+        BuriedPairs zero = Check.town("b 2;c 0 1 4 9;h 0 1 6;h 0 2 7");
+        zero.want(0, 6, 2);
+        zero.want(0, 7, 1);
+        Check.due("aside to pair 0", zero.moves(0, 0, 1, 0), 48);
         BuriedPairs all = Check.town("b 2;c 0 1 6 9;h 0 0 0;h 0 1 1;h 0 2 2;h 0 3 3;h 0 4 4");
         for (int house = 0; house < 5; house++) {
             all.want(0, house, (house + 1) % 5);

@@ -13,6 +13,8 @@ public final class TextTest {
         digits();
         cablesAndJoints();
         plansAreMadeOfTexts();
+        aFaultLeavesNothing();
+        fullTapes();
         Check.finish("TextTest");
     }
 
@@ -184,6 +186,33 @@ public final class TextTest {
         fault("b 3;c 0 1 1 1;j 0 0 1 0;c 1 2 1 1", 20);
         fault("b 3;c 0 1 1 1;c 1 2 1 1;j 0 0 1", 31);
         fault("b 3;c 0 1 1 1;c 1 2 1 1;j 0 0 1 0", NONE);
+    }
+
+    /** What a text with a fault told must not be found in the next one. */
+    private static void aFaultLeavesNothing() {
+        BuriedPairs town = new BuriedPairs();
+        Check.feed(town, "b 8;c 0 1 3 5;c 1 2 3 5;j 0 0 1 0;h 0 1 4;h 1 1 5;x");
+        Check.due("its fault", town.fault(), 50);
+        Check.due("plan", Check.plan(town, "b 3;c 0 1 4 9;c 1 2 4 9;h 0 0 1"), 0);
+        Check.due("cables", town.count(3), 2);
+        Check.due("no joint", town.joint(0, 0, 0), NONE);
+        Check.due("no joint back", town.metres(0, 0, false, 1, 0, 1), 36);
+        Check.due("no house 4", town.house(0, 4), NONE);
+        Check.due("nothing hangs at pair 1", town.spare(0, 0, 1), 14);
+        Check.due("pairs", town.cable(0, 0, 2), 4);
+        Check.due("no box 7", town.walk(0, 7, 7), NONE);
+    }
+
+    private static void fullTapes() {
+        for (int place = 0; place < 5; place++) {
+            BuriedPairs town = new BuriedPairs();
+            Check.feed(town, " ".repeat(297));
+            int[] four = new int[5];
+            four[place] = 0x20202020;
+            Check.due("four too many", town.feed(four[0], four[1], four[2], four[3], four[4]), NONE);
+            four[place] = 0x20200020;
+            Check.due("three", town.feed(four[0], four[1], four[2], four[3], four[4]), 300);
+        }
     }
 
     private static void plansAreMadeOfTexts() {

@@ -44,6 +44,12 @@ final class Check {
         return size;
     }
 
+    static void feed(Oracle oracle, String text) {
+        for (int i = 0; i < text.length(); i++) {
+            oracle.feed(text.charAt(i), 0, 0, 0, 0);
+        }
+    }
+
     static int plan(BuriedPairs town, String text) {
         town.end(0);
         feed(town, text);

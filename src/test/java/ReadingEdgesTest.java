@@ -14,6 +14,7 @@ public final class ReadingEdgesTest {
         twelveTests();
         tellsOfNoSuchOnes();
         tellsWhatHeardAndMetresTell();
+        tellsAtEachEndOfEachCable();
         readOfNoSuchTest();
         toldBelowNought();
         twentyFourReadings();
@@ -26,12 +27,15 @@ public final class ReadingEdgesTest {
         everyReadingCounts();
         fewestOfNone();
         fewestWithTheLowerFault();
+        fewestOfAllNumbers();
         sureOfNoSuchOnes();
         sureWhereNoneFits();
         sureOfOneAndOfAll();
+        sureOfEither();
         partsOfNoSuchOnes();
         partsWhereNoneFits();
         partsOfOneAndOfMost();
+        partsOfTheFarthestMetres();
         nextOfNoSuchOnes();
         nextFarEnough();
         nextWhereThereIsNone();
@@ -119,6 +123,24 @@ public final class ReadingEdgesTest {
                 int metres = town.metres(0, world, wet, 1, 1, 1);
                 Check.due("the metres in " + world, town.tells(0, 1, world, wet), metres);
             }
+        }
+    }
+
+    // "a CABLE and end where one listens"; "1 METRES: where"
+    private static void tellsAtEachEndOfEachCable() {
+        for (int at = 0; at < 8; at++) {
+            BuriedPairs town = Towns.furnished();
+            int cable = at / 2;
+            int end = at % 2;
+            Check.due("a tone", town.test(0, 0, 0, 2, 0, cable, end), 3);
+            Check.due("metres", town.test(0, 1, cable, 1, end, 0, 0), 4);
+            int[] tone = {4, 4, 0, 0, 1, 1, 2, 2};
+            int[] metres = {117, 36, 81, 116, 29, 28, 33, 96};
+            Check.due("what is heard at " + at, town.tells(0, 3, 0, true), tone[at]);
+            Check.due("what is measured at " + at, town.tells(0, 4, 0, true), metres[at]);
+            int[] crossed = {1, 2, 2, 2, 0, 0, 0, 0};
+            Check.due("a tone of pair 0", town.test(0, 0, 0, 0, 0, cable, end), 5);
+            Check.due("by the numbers at " + at, town.tells(0, 5, 1, false), crossed[at]);
         }
     }
 
@@ -288,6 +310,29 @@ public final class ReadingEdgesTest {
         Check.due("of all but none", all.fitting(0, NONE), 1023);
     }
 
+    // "with the fewest FAULTS": whatever their numbers.
+    private static void fewestOfAllNumbers() {
+        BuriedPairs town = Check.town("b 2;c 0 1 6 9");
+        town.test(0, 0, 0, 0, 0, 0, 1);
+        town.trouble(0, 0, 0, 0, 1, 0);
+        town.trouble(0, 0, 0, 1, 2, 0);
+        town.trouble(0, 0, 0, 0, 2, 0);
+        town.read(0, 0, false, 4);
+        Check.due("first by numbers is {0, 1}", town.fitting(0, 0), 3);
+        Check.due("the fewest is {2}", town.fewest(0), 4);
+        BuriedPairs two = Check.town("b 2;c 0 1 6 9");
+        two.test(0, 0, 0, 0, 0, 0, 1);
+        two.trouble(0, 0, 0, 0, 1, 0);
+        two.trouble(0, 0, 0, 0, 2, 0);
+        two.trouble(0, 0, 0, 2, 5, 0);
+        two.trouble(0, 0, 0, 1, 5, 0);
+        two.read(0, 0, false, 32);
+        Check.due("first by numbers is {1, 2}", two.fitting(0, 0), 6);
+        Check.due("but {0, 3} has the lower fault", two.fewest(0), 9);
+        two.trouble(0, 0, 0, 0, 5, 0);
+        Check.due("and {4} is fewer", two.fewest(0), 16);
+    }
+
     // Promise 24: "SURE (0), MAY (1)", "NONE: .. no such ones."
     private static void sureOfNoSuchOnes() {
         furnished("sure", (town, n) -> town.sure(n[0], n[1]), 0, 0)
@@ -327,6 +372,28 @@ public final class ReadingEdgesTest {
         town.read(0, 1, false, 0);
         Check.due("the first and the last are sure", town.sure(0, 0), 513);
         Check.due("all may be", town.sure(0, 1), 1023);
+    }
+
+    // "in all FITTING WORLDS", not in the first or the last alone.
+    private static void sureOfEither() {
+        BuriedPairs town = Check.town("b 2;c 0 1 2 9");
+        town.test(0, 0, 0, 0, 0, 0, 1);
+        town.trouble(0, 1, 0, 0, 0, 2);
+        town.trouble(0, 1, 0, 0, 0, 3);
+        town.trouble(0, 1, 0, 1, 0, 3);
+        town.read(0, 0, false, 0);
+        Check.due("either break, or both", town.fitting(0, NONE), 6);
+        Check.due("the first is {0}", town.fitting(0, 0), 1);
+        Check.due("but neither is sure", town.sure(0, 0), 0);
+        Check.due("all may be", town.sure(0, 1), 7);
+        BuriedPairs two = Check.town("b 2;c 0 1 2 9");
+        two.test(0, 0, 0, 0, 0, 0, 1);
+        two.trouble(0, 0, 0, 0, 1, 0);
+        two.trouble(0, 0, 0, 1, 0, 0);
+        two.read(0, 0, false, 2);
+        Check.due("one swap or the other", two.fitting(0, NONE), 2);
+        Check.due("neither is sure", two.sure(0, 0), 0);
+        Check.due("both may be", two.sure(0, 1), 3);
     }
 
     // Promise 25: "LARGEST (0), KINDS (1)", "NONE: no such ones."
@@ -382,6 +449,26 @@ public final class ReadingEdgesTest {
         Check.due("dry all tell the same", each.parts(0, 0, false, 0), 8);
     }
 
+    // METRES over the longest row tells the greatest numbers: to a break, to the house and to a touch at its end.
+    private static void partsOfTheFarthestMetres() {
+        BuriedPairs town = Towns.longest();
+        town.trouble(0, 1, 6, 0, 0, 99);
+        town.trouble(0, 2, 6, 0, 1, 99);
+        town.trouble(0, 1, 5, 0, 0, 98);
+        town.test(0, 1, 0, 0, 0, 0, 0);
+        Check.due("wet: two breaks, a touch, a house", town.parts(0, 0, true, 1), 4);
+        Check.due("wet: half of all to the nearest", town.parts(0, 0, true, 0), 4);
+        Check.due("dry: two breaks, a house", town.parts(0, 0, false, 1), 3);
+        town.read(0, 0, true, 4 * 693 + 2);
+        Check.due("to the touch", town.fitting(0, NONE), 1);
+        town.unread(0);
+        town.read(0, 0, false, 4 * 693);
+        Check.due("to the break, wet and dry", town.fitting(0, NONE), 2);
+        Check.due("of one kind", town.parts(0, 0, true, 1), 1);
+        Check.due("two of it", town.parts(0, 0, true, 0), 2);
+        Check.due("so it is the next", town.next(0, true, 0, 0), 0);
+    }
+
     // Promise 26: "NONE: .. no such ones, far below 0."
     private static void nextOfNoSuchOnes() {
         furnished("next", (town, n) -> town.next(n[0], false, n[1], n[2]), 0, 0, 99)
@@ -430,11 +517,20 @@ public final class ReadingEdgesTest {
         Check.due("from box 1, 5 and 7 metres: the nearer one", town.next(0, false, 1, 99), 3);
         town.test(0, 1, 0, 0, 0, 0, 0);
         Check.due("as near: the lower number", town.next(0, false, 0, 99), 3);
+        town.test(0, 0, 0, 1, 0, 0, 0);
+        Check.due("a nearer one that parts less is not the next", town.next(0, false, 0, 99), 3);
+        Check.due("nor where the better one is farther", town.next(0, false, 1, 99), 3);
         town.trouble(0, 2, 2, 0, 1, 1);
         town.test(0, 1, 2, 1, 1, 0, 0);
-        Check.due("dry", town.next(0, false, 3, 0), 6);
-        Check.due("wet it parts in two halves of eight", town.parts(0, 6, true, 0), 4);
-        Check.due("and dry not at all", town.parts(0, 6, false, 0), 8);
+        Check.due("dry", town.next(0, false, 3, 0), 7);
+        Check.due("wet it parts in two halves of eight", town.parts(0, 7, true, 0), 4);
+        Check.due("and dry not at all", town.parts(0, 7, false, 0), 8);
+        BuriedPairs worse = Check.town("b 2;c 0 1 2 5");
+        worse.trouble(0, 1, 0, 0, 0, 2);
+        worse.test(0, 1, 0, 0, 1, 0, 0);
+        worse.test(0, 1, 0, 1, 0, 0, 0);
+        Check.due("the farther one that parts them", worse.next(0, false, 0, 5), 0);
+        Check.due("the nearer one that does not, if it is too far", worse.next(0, false, 0, 4), 1);
     }
 
     // "The BOX of a TEST: where one listens, or measures."

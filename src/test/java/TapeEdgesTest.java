@@ -14,6 +14,7 @@ public final class TapeEdgesTest {
         bytesOfNoughtAreLeftOut();
         allOtherBytesCome();
         threeHundredBytesAndNotOneMore();
+        everyByteCountsAtTheEnd();
         ofTwentyTooManyNoneComes();
         theTapeHasItsFirstBytesAlone();
         endIsFalseForAWrongNumber();
@@ -23,6 +24,7 @@ public final class TapeEdgesTest {
         faultChangesNothing();
         thePlanEmptiesTheTape();
         noPlanWithAFault();
+        aTextWithAFaultLeavesNothing();
         sixPlansAndNoSeventh();
         aPlanOfThreeHundredBytes();
         Check.finish("TapeEdgesTest");
@@ -111,6 +113,29 @@ public final class TapeEdgesTest {
         }
         BuriedPairs nearly = tape(" ".repeat(299)).get();
         Check.due("the 300th byte, noughts about it", nearly.feed(0, 0, 0x00200000, 0, 0), 300);
+    }
+
+    // Promise 2: any byte but 0 is one too many, and the 300th, too.
+    private static void everyByteCountsAtTheEnd() {
+        for (int one = 1; one < 256; one++) {
+            BuriedPairs full = tape(" ".repeat(300)).get();
+            for (int shift = 0; shift < 32; shift += 8) {
+                Check.due("byte " + one + " is the 301st", full.feed(0, 0, 0, 0, one << shift), NONE);
+                BuriedPairs nearly = tape(" ".repeat(299)).get();
+                Check.due("byte " + one + " is the 300th", nearly.feed(one << shift, 0, 0, 0, 0), 300);
+            }
+            Check.due("none came", full.count(1), 300);
+        }
+        for (int many = 1; many <= 20; many++) {
+            int[] n = new int[5];
+            for (int i = 0; i < many; i++) {
+                n[i * 7 % 20 / 4] |= 0x80 << i * 7 % 4 * 8;
+            }
+            BuriedPairs fits = tape(" ".repeat(300 - many)).get();
+            Check.due(many + " more", fits.feed(n[0], n[1], n[2], n[3], n[4]), 300);
+            BuriedPairs over = tape(" ".repeat(301 - many)).get();
+            Check.due(many + " more are one too many", over.feed(n[0], n[1], n[2], n[3], n[4]), NONE);
+        }
     }
 
     // Promise 2: "NONE: more than 300": what is refused changes nothing.
@@ -229,6 +254,25 @@ public final class TapeEdgesTest {
         Check.due("refused", town.plan(), NONE);
         town.end(3);
         Check.due("mended, it has the number that was due", town.plan(), 0);
+    }
+
+    // Promises 4 and 5: what a text with a fault told is not found in the next one.
+    private static void aTextWithAFaultLeavesNothing() {
+        String next = "b 3;c 0 1 2 4;c 1 2 2 4";
+        for (String wrong : new String[] {"b 8;c 0 1 3 5;c 1 2 3 5;j 0 0 1 0;j 0 1 1 1;h 0 1 4;h 1 1 5;h 0 0 6;",
+            "b 8;c 0 2 6 9;c 2 3 6 9;c 0 1 6 9;c 3 4 6 9;j 0 0 1 0;h 2 0 0;x"}) {
+            Supplier<BuriedPairs> without = () -> Check.town(next);
+            Supplier<BuriedPairs> behind = () -> {
+                BuriedPairs town = tape(wrong).get();
+                Check.due("its fault", town.fault() != NONE, true);
+                Check.due("it is no plan", town.plan(), NONE);
+                Check.due("the next one is", Check.plan(town, next), 0);
+                return town;
+            };
+            Check.due("alike", Picture.of(behind.get()).equals(Picture.of(without.get())), true);
+            Check.due("nothing hangs or goes on", behind.get().spare(0, 0, 1), 3);
+            Check.due("nothing comes", behind.get().metres(0, 0, false, 1, 0, 1), 16);
+        }
     }
 
     // Promise 5: "NONE: .. there are six."

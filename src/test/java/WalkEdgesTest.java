@@ -21,6 +21,7 @@ public final class WalkEdgesTest {
         wantOfNoSuchOnes();
         wantOfOneThatHangsNowhere();
         wantWhatAnotherOneWants();
+        wantOfAnyTwo();
         wantNone();
         wantAsAllSlipsTell();
         movesOfNoSuchOnes();
@@ -30,6 +31,7 @@ public final class WalkEdgesTest {
         movesToFreePairsAlone();
         movesTheLowestHouseFirst();
         movesAsideForOneThatIsNotHome();
+        movesAsideForAnyHouse();
         movesAsideOnce();
         movesAsideToTheLowestFreePair();
         movesInThatWorld();
@@ -281,6 +283,21 @@ public final class WalkEdgesTest {
         Check.due("in the other plan it is free", town.want(1, 0, 1), true);
     }
 
+    // "another one": any of the ten, and any of the six pairs.
+    private static void wantOfAnyTwo() {
+        for (int one = 0; one < 10; one++) {
+            for (int other = 0; other < 10; other++) {
+                if (one != other) {
+                    BuriedPairs town = Check.town("b 2;c 0 1 6 9;h 0 0 " + one + ";h 0 1 " + other);
+                    int pair = (one + other) % 6;
+                    Check.due("one wants it", town.want(0, one, pair), true);
+                    Check.due(other + " may not want what " + one + " wants", town.want(0, other, pair), false);
+                    Check.due("but another", town.want(0, other, (pair + 1) % 6), true);
+                }
+            }
+        }
+    }
+
     // "NONE: none": and none may be wanted by many.
     private static void wantNone() {
         BuriedPairs town = Towns.furnished();
@@ -401,6 +418,26 @@ public final class WalkEdgesTest {
         home.want(0, 4, 1);
         Check.due("7 may not want where 4 is home and wants it", home.want(0, 7, 1), false);
         moves("so it stays", home, 0, 1);
+    }
+
+    // "where another HOUSE hangs": house 0 and house 9, too, and none of another cable.
+    private static void movesAsideForAnyHouse() {
+        BuriedPairs first = Check.town("b 2;c 0 1 4 5;h 0 0 0;h 0 1 1");
+        first.trouble(0, 1, 0, 3, 0, 0);
+        first.want(0, 0, 3);
+        first.want(0, 1, 0);
+        moves("1 goes aside for 0, which cannot go", first, 1, 1, 10);
+        BuriedPairs last = Check.town("b 2;c 0 1 4 5;h 0 0 9;h 0 1 1");
+        last.trouble(0, 1, 0, 3, 0, 0);
+        last.want(0, 9, 3);
+        last.want(0, 1, 0);
+        moves("1 goes aside for 9, which cannot go", last, 1, 1, 10);
+        BuriedPairs apart = Check.town("b 3;c 0 1 4 5;c 0 2 4 5;h 0 0 0;h 0 1 3;h 1 1 4;h 1 2 5");
+        apart.want(0, 0, 1);
+        apart.want(0, 4, 2);
+        apart.want(0, 5, 1);
+        moves("3 wants none: 0 stays", apart, 0, 1);
+        moves("0 of the other cable does not move here, nor 3", apart, 0, 2, 32, 41, 34);
     }
 
     // "and that have not gone so yet"

@@ -7,6 +7,7 @@ public final class WorldEdgesTest {
 
     public static void main(String[] args) {
         worldsAreSetsOfFaults();
+        slipsAreDoneButForThatFault();
         heardOfNoSuchOnes();
         metresOfNoSuchOnes();
         fedOfNoSuchOnes();
@@ -20,7 +21,10 @@ public final class WorldEdgesTest {
         aBreakAtNought();
         aBreakAtTheEnd();
         aTouchAndABreakAtEachMetre();
+        aTouchToldTheOtherWayAbout();
         aTouchAtNoughtAndAtTheEnd();
+        tenBreaksOfOneWire();
+        tenTouchesOfOneWire();
         dryNothingTouches();
         metresAlsoToATouchWhereOneStands();
         metresThroughJoints();
@@ -68,6 +72,24 @@ public final class WorldEdgesTest {
             .goes(1, 0, 3, 1023, 0)
             .takes(2, 0, 512)
             .takes(1, 0, 511);
+    }
+
+    // "3 UNDONE: a SLIP was never done": by a fault of no other kind.
+    private static void slipsAreDoneButForThatFault() {
+        BuriedPairs town = Check.town("b 3;c 0 1 3 5;c 0 2 3 5");
+        town.slip(0, 1, 0, 0, 6, 0);
+        town.slip(0, 1, 0, 1, 7, 0);
+        town.trouble(0, 0, 1, 0, 1, 0);
+        town.trouble(0, 1, 1, 0, 1, 1);
+        town.trouble(0, 2, 1, 0, 1, 1);
+        town.trouble(0, 3, 1, 0, 0, 0);
+        town.trouble(0, 3, 0, 0, 0, 0);
+        for (int world = 0; world < 32; world++) {
+            long six = world < 16 ? 1 : NONE;
+            long seven = (world & 8) == 0 ? 2 : NONE;
+            Check.due("house 6 in world " + world, town.fed(0, world, true, 6), six);
+            Check.due("house 7 in world " + world, town.fed(0, world, true, 7), seven);
+        }
     }
 
     // Promise 12: "NONE: no such ones, WORLD."
@@ -232,6 +254,61 @@ public final class WorldEdgesTest {
                 Check.due(name + ": fed", town.fed(0, 3, true, 6), behind ? 2 : 0);
             }
         }
+    }
+
+    // "PAIRS P and Q (likewise) touch": it is the same for either.
+    private static void aTouchToldTheOtherWayAbout() {
+        for (int touch = 0; touch <= 4; touch++) {
+            for (int cut = 0; cut <= 4; cut++) {
+                BuriedPairs town = cutAt(cut);
+                town.trouble(0, 2, 1, 0, 1, touch);
+                town.trouble(0, 2, 1, 1, 0, touch);
+                for (int pair = 0; pair < 2; pair++) {
+                    for (int end = 0; end < 4; end++) {
+                        int one = town.heard(0, 3, true, 1, pair, end / 2, 1, end % 2);
+                        Check.due("heard", town.heard(0, 5, true, 1, pair, end / 2, 1, end % 2), one);
+                        Check.due("by both", town.heard(0, 7, true, 1, pair, end / 2, 1, end % 2), one);
+                    }
+                    Check.due("metres", town.metres(0, 5, true, 1, pair, 0), town.metres(0, 3, true, 1, pair, 0));
+                    Check.due("back", town.metres(0, 5, true, 1, pair, 1), town.metres(0, 3, true, 1, pair, 1));
+                }
+                Check.due("near end to near ends", town.heard(0, 5, true, 1, 0, 0, 1, 0), cut <= touch ? 1 : 3);
+                Check.due("far end to far ends", town.heard(0, 5, true, 1, 0, 1, 1, 1), cut <= touch ? 3 : 1);
+            }
+        }
+    }
+
+    // "FAULTS (10 at most": all of them breaks of one pair.
+    private static void tenBreaksOfOneWire() {
+        BuriedPairs town = Check.town("b 3;c 0 1 2 9;c 1 2 2 9;j 0 0 1 0;j 0 1 1 1;h 1 0 0");
+        for (int d = 9; d >= 0; d--) {
+            town.trouble(0, 1, 0, 0, 0, d);
+        }
+        Check.due("from near at once", town.metres(0, 1023, false, 0, 0, 0), 0);
+        Check.due("from far at once", town.metres(0, 1023, false, 0, 0, 1), 0);
+        Check.due("near hears itself", town.heard(0, 1023, false, 0, 0, 0, 0, 0), 1);
+        Check.due("and not far", town.heard(0, 1023, false, 0, 0, 0, 0, 1), 0);
+        Check.due("far hears itself", town.heard(0, 1023, false, 0, 0, 1, 0, 1), 1);
+        Check.due("and not near", town.heard(0, 1023, false, 0, 0, 1, 0, 0), 0);
+        Check.due("and goes on from there", town.heard(0, 1023, false, 0, 0, 1, 1, 1), 1);
+        Check.due("but the first: nine from near", town.metres(0, 1, false, 0, 0, 0), 36);
+        Check.due("but the last: nine from far", town.metres(0, 512, false, 0, 0, 1), 36);
+        Check.due("the other is whole", town.heard(0, 1023, false, 0, 1, 0, 1, 1), 2);
+    }
+
+    // "FAULTS (10 at most": all of them touches of one pair.
+    private static void tenTouchesOfOneWire() {
+        BuriedPairs town = Check.town("b 2;c 0 1 6 9");
+        for (int fault = 0; fault < 10; fault++) {
+            town.trouble(0, 2, 0, fault % 5 + 1, 0, 9 - fault);
+        }
+        Check.due("all hear it", town.heard(0, 1023, true, 0, 0, 0, 0, 1), 63);
+        Check.due("and it hears the last", town.heard(0, 1023, true, 0, 5, 1, 0, 0), 63);
+        Check.due("dry none", town.heard(0, 1023, false, 0, 5, 1, 0, 0), 32);
+        Check.due("the first from near", town.metres(0, 1023, true, 0, 0, 0), 2);
+        Check.due("the first from far", town.metres(0, 1023, true, 0, 0, 1), 2);
+        Check.due("of another its own first", town.metres(0, 1023, true, 0, 1, 0), 18);
+        Check.due("of another its own first from far", town.metres(0, 1023, true, 0, 1, 1), 2);
     }
 
     // "a TOUCH at L lies behind one there"; one at 0 lies behind one at 0, too.

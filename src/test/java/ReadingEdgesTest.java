@@ -40,6 +40,7 @@ public final class ReadingEdgesTest {
         nextFarEnough();
         nextWhereThereIsNone();
         nextOfSeveral();
+        nextByTheLargestNotTheKinds();
         theBoxOfATest();
         theQuestionsChangeNothing();
         Check.finish("ReadingEdgesTest");
@@ -531,6 +532,25 @@ public final class ReadingEdgesTest {
         worse.test(0, 1, 0, 1, 0, 0, 0);
         Check.due("the farther one that parts them", worse.next(0, false, 0, 5), 0);
         Check.due("the nearer one that does not, if it is too far", worse.next(0, false, 0, 4), 1);
+    }
+
+    // "with the least LARGEST": three kinds of 24, 24 and 16 worlds part better than four of 32, 16, 8 and 8.
+    private static void nextByTheLargestNotTheKinds() {
+        BuriedPairs town = Check.town("b 3;c 0 1 1 9;c 0 2 3 9");
+        town.trouble(0, 1, 0, 0, 0, 2);
+        town.trouble(0, 1, 0, 0, 0, 4);
+        town.trouble(0, 1, 0, 0, 0, 6);
+        town.trouble(0, 0, 1, 0, 1, 0);
+        town.trouble(0, 0, 1, 1, 2, 0);
+        town.trouble(0, 0, 1, 0, 1, 0);
+        town.test(0, 1, 0, 0, 0, 0, 0);
+        town.test(0, 0, 1, 0, 0, 1, 1);
+        Check.due("2 metres are told by half of the worlds", town.parts(0, 0, false, 0), 32);
+        Check.due("2, 4, 6 or 9 metres", town.parts(0, 0, false, 1), 4);
+        Check.due("pair 0 comes out as 0, or as 1, in 3 of 8", town.parts(0, 1, false, 0), 24);
+        Check.due("as 0, 1 or 2", town.parts(0, 1, false, 1), 3);
+        Check.due("the one with fewer kinds, though farther", town.next(0, false, 0, 9), 1);
+        Check.due("if it is too far, the other", town.next(0, false, 0, 8), 0);
     }
 
     // "The BOX of a TEST: where one listens, or measures."

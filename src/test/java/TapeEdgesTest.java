@@ -1,3 +1,4 @@
+import java.util.List;
 import java.util.function.Supplier;
 
 /** Promises 1 to 5 and part 1 of the terms: each sentence that names an edge, one test a sentence. */
@@ -9,6 +10,7 @@ public final class TapeEdgesTest {
 
     public static void main(String[] args) {
         ofANewObjectNothingIsTold();
+        oneObjectHearsNothingOfAnother();
         theConstant();
         twentyBytesComeTheHighestFirst();
         bytesOfNoughtAreLeftOut();
@@ -49,6 +51,24 @@ public final class TapeEdgesTest {
         for (int plan : new int[] {MIN, -1, 0, 1, 5, MAX}) {
             PlanNumbers.allRefuse(Towns::fresh, plan);
         }
+    }
+
+    // "Nothing is told": whatever others were told, and they keep theirs.
+    private static void oneObjectHearsNothingOfAnother() {
+        BuriedPairs first = Towns.furnished();
+        List<String> before = Picture.of(Towns.furnished());
+        BuriedPairs second = new BuriedPairs();
+        Check.due("no plan of the other", second.count(0), 0);
+        Check.due("no byte of the other", second.count(1), 0);
+        Check.due("its own first plan", Check.plan(second, "b 2;c 0 1 1 5"), 0);
+        Check.due("its own cable", second.cable(0, 0, 3), 5);
+        Check.due("its own first slip", second.slip(0, 1, 0, 0, 9, 0), 0);
+        Check.due("its own first fault", second.trouble(0, 1, 0, 0, 0, 3), 0);
+        Check.due("its own first test", second.test(0, 1, 0, 0, 0, 0, 0), 0);
+        Check.due("its own first reading", second.read(0, 0, false, 12), 1);
+        Check.due("its own fitting world", second.fitting(0, 0), 1);
+        Check.due("its own wish", second.want(0, 9, 0), true);
+        Check.due("the first one looks as before", Picture.of(first).equals(before), true);
     }
 
     // "NONE = -1"

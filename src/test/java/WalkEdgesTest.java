@@ -32,6 +32,7 @@ public final class WalkEdgesTest {
         movesTheLowestHouseFirst();
         movesAsideForOneThatIsNotHome();
         movesAsideForAnyHouse();
+        movesNotAsideForOneAtHome();
         movesAsideOnce();
         movesAsideToTheLowestFreePair();
         movesInThatWorld();
@@ -438,6 +439,19 @@ public final class WalkEdgesTest {
         apart.want(0, 5, 1);
         moves("3 wants none: 0 stays", apart, 0, 1);
         moves("0 of the other cable does not move here, nor 3", apart, 0, 2, 32, 41, 34);
+    }
+
+    // "and is not on it": by a slip two houses of one cable want one pair, and one of them is there.
+    private static void movesNotAsideForOneAtHome() {
+        BuriedPairs town = Check.town("b 3;c 0 1 4 9;c 0 2 4 9;h 1 0 1;h 0 1 2");
+        Check.due("house 1 wants pair 1 of its cable", town.want(0, 1, 1), true);
+        Check.due("house 2 wants pair 1 of another, where it hangs", town.want(0, 2, 1), true);
+        town.slip(0, 1, 0, 0, 1, 0);
+        town.trouble(0, 3, 0, 0, 0, 0);
+        moves("house 1 came to pair 0 beside it: 2 is home, 1 stays", town, 0, 1);
+        moves("the slip was not done: 1 goes home on its own cable", town, 1, 2, 9);
+        town.want(0, 2, 3);
+        moves("2 goes, and 1 comes home behind it", town, 0, 1, 19, 9);
     }
 
     // "and that have not gone so yet"

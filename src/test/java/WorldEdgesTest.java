@@ -34,6 +34,7 @@ public final class WorldEdgesTest {
         servedByOneJust();
         neighboursAreOthers();
         sparesAreFedAndLeadToNothing();
+        sparesAreThoseOfTheWorld();
         theQuestionsChangeNothing();
         Check.finish("WorldEdgesTest");
     }
@@ -461,6 +462,19 @@ public final class WorldEdgesTest {
         Check.due("not wet: a touch feeds none", town.spare(0, 10, 1), 12);
         Check.due("one cable of one pair", Check.town("b 2;c 0 1 1 1").spare(0, 0, 1), 1);
         Check.due("all six", Check.town("b 2;c 0 1 6 1").spare(0, 0, 1), 63);
+    }
+
+    // "SPARE at a BOX": houses and joints are those of the world that is asked for, not those of all slips.
+    private static void sparesAreThoseOfTheWorld() {
+        BuriedPairs town = Check.town("b 3;c 0 1 4 9;c 1 2 2 5;h 0 0 3;j 0 2 1 0");
+        town.slip(0, 1, 0, 1, 3, 0);
+        town.slip(0, 0, 0, 3, 1, 0);
+        town.trouble(0, 3, 0, 0, 0, 0);
+        town.trouble(0, 3, 1, 0, 0, 0);
+        Check.due("house 3 at pair 1, a joint at pair 3", town.spare(0, 0, 1), 5);
+        Check.due("house 3 still at pair 0", town.spare(0, 1, 1), 6);
+        Check.due("the joint still at pair 2", town.spare(0, 2, 1), 9);
+        Check.due("both as the text tells", town.spare(0, 3, 1), 10);
     }
 
     // Promises 12 to 17 are questions.

@@ -730,22 +730,19 @@ public final class BuriedPairs {
     /** Reads the TAPE into a PLAN, up to the FAULT if there is one. */
     private static final class TextReader {
         private final Tape tape;
-        private Plan draft;
         private int at;
         private int wrong;
 
         TextReader(Tape tape) {
             this.tape = tape;
-            draft = null;
             at = 0;
             wrong = NONE;
         }
 
-        int readInto(Plan target) {
-            if (target == null) {
+        int readInto(Plan draft) {
+            if (draft == null) {
                 return 0;
             }
-            draft = target;
             draft.clearText();
             at = 0;
             wrong = NONE;

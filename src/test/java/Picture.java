@@ -8,7 +8,7 @@ import java.util.NoSuchElementException;
  */
 final class Picture {
     /** With what made the object before, it stays within the 512 calls of the document. */
-    private static final int MOST_CALLS = 390;
+    private static final int MOST_CALLS = 400;
     private static final int NONE = BuriedPairs.NONE;
 
     private final BuriedPairs town;
@@ -118,7 +118,9 @@ final class Picture {
         String name = "plan " + plan + ", then: ";
         row(name + "test", town.test(plan, 1, 0, 0, 0, 0, 0));
         row(name + "read", town.read(plan, 0, false, 0));
-        row(name + "unread", town.unread(plan));
+        while (row(name + "unread", town.unread(plan)) != NONE) {
+            row(name + "fitting", town.fitting(plan, NONE));
+        }
         row(name + "trouble", town.trouble(plan, 1, 0, 0, 0, 0));
         row(name + "slip", town.slip(plan, 1, 0, 0, 0, 0));
     }

@@ -174,6 +174,27 @@ public final class ReadingEdgesTest {
         Check.due("one less", full.unread(0), 23);
         Check.due("makes room for one", full.read(0, 0, false, 0), 24);
         Check.due("and no more", full.read(0, 0, false, 0), NONE);
+        theTwentyFourStand(0);
+        theTwentyFourStand(23);
+    }
+
+    /** One of 24 readings, the first or the last, tells that pair 0 is cut: a 25th that denies it is not heard. */
+    private static void theTwentyFourStand(int place) {
+        BuriedPairs town = Check.town("b 2;c 0 1 2 9");
+        town.trouble(0, 1, 0, 0, 0, 4);
+        town.test(0, 1, 0, 0, 0, 0, 0);
+        town.test(0, 1, 0, 1, 0, 0, 0);
+        for (int i = 0; i < 24; i++) {
+            Check.due("read", town.read(0, i == place ? 0 : 1, false, i == place ? 16 : 36), i + 1);
+        }
+        Check.due("a 25th that tells of a whole wire", town.read(0, 0, false, 36), NONE);
+        Check.due("still the one world with the break", town.fitting(0, 0), 1);
+        Check.due("a 25th that no world tells", town.read(0, 1, false, 1), NONE);
+        Check.due("still one", town.fitting(0, NONE), 1);
+        for (int left = 23; left >= 0; left--) {
+            Check.due("unread", town.unread(0), left);
+            Check.due("the break is sure while that reading stands", town.sure(0, 0), left > place ? 1 : 0);
+        }
     }
 
     // Promise 21: "The latest READING is none: how many there are."

@@ -216,6 +216,24 @@ public final class TellingEdgesTest {
         Edges.unchanged("a seventh, a joint", Towns::full, t -> t.slip(0, 0, 0, 4, 1, 3), NONE);
         Edges.unchanged("a seventh, a house", Towns::full, t -> t.slip(0, 1, 0, 0, 3, 0), NONE);
         Edges.unchanged("a seventh that is none", Towns::full, t -> t.slip(0, 2, 0, 0, 3, 0), NONE);
+        theSixSlipsStand();
+    }
+
+    /** A seventh takes no slip's place: seen where another of them was never done, so that all are gone through. */
+    private static void theSixSlipsStand() {
+        BuriedPairs town = Check.town("b 2;c 0 1 6 5");
+        for (int slip = 0; slip < 6; slip++) {
+            Check.due("house " + slip, town.slip(0, 1, 0, slip, slip, 0), slip);
+            Check.due("or not", town.trouble(0, 3, slip, 0, 0, 0), slip);
+        }
+        Check.due("a seventh", town.slip(0, 1, 0, 0, 9, 0), NONE);
+        for (int undone = 0; undone < 6; undone++) {
+            for (int house = 0; house < 6; house++) {
+                Check.due("house " + house + " without slip " + undone, town.fed(0, 1 << undone, false, house),
+                    house == undone ? NONE : 1 << house);
+            }
+            Check.due("house 9 hangs nowhere", town.fed(0, 1 << undone, false, 9), NONE);
+        }
     }
 
     // "in their order they come behind the PLAN's TEXT"

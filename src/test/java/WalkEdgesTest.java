@@ -269,6 +269,16 @@ public final class WalkEdgesTest {
         want.refuses(0, 6, 0).refuses(0, 7, NONE).refuses(0, 8, 3);
         new Edges("want", Towns::movedBySlips, WalkEdgesTest::want, 0, 0, 0, 0)
             .refuses(0, 0, 0).refuses(0, 0, NONE).takes(1, 0, 1, 0).takes(1, 0, 2, 0);
+        BuriedPairs town = Check.town("b 2;c 0 1 3 9;h 0 0 1");
+        Check.due("house 4 hangs nowhere", town.want(0, 4, 2), false);
+        town.slip(0, 1, 0, 1, 4, 0);
+        moves("now it hangs, and wants none", town, 0, 1);
+        Check.due("so another may want what it was refused", town.want(0, 1, 2), true);
+        Check.due("it wants the first one's pair", town.want(0, 4, 0), true);
+        town.slip(0, 1, 0, 1, 5, 0);
+        Check.due("put off by house 5 it hangs nowhere again", town.want(0, 4, NONE), false);
+        town.slip(0, 1, 0, 1, 4, 0);
+        moves("back in its place it wants what it wanted", town, 0, 1, 10, 32);
     }
 
     // Promise 29: "False: .. another one on that CABLE wants it."

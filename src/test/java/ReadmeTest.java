@@ -8,8 +8,6 @@ import java.util.ArrayList;
 import java.util.List;
 import java.util.regex.Matcher;
 import java.util.regex.Pattern;
-import javax.tools.JavaCompiler;
-import javax.tools.ToolProvider;
 
 /** The calls of README.md are compiled and run as they stand there, and each must answer what it says behind them. */
 public final class ReadmeTest {
@@ -82,9 +80,8 @@ public final class ReadmeTest {
             Path source = out.resolve(RUN + ".java");
             Files.writeString(source, "final class " + RUN + " {\n" + String.join("\n", members)
                 + "\nstatic void run() {\n" + String.join("\n", steps) + "\n}\n}\n");
-            JavaCompiler compiler = ToolProvider.getSystemJavaCompiler();
-            int failed = compiler.run(null, null, null, "-d", out.toString(), "-cp",
-                System.getProperty("java.class.path"), source.toString());
+            int failed = new ProcessBuilder("javac", "-d", out.toString(), "-cp", System.getProperty("java.class.path"),
+                source.toString()).inheritIO().start().waitFor();
             Check.due("README.md compiles, or else javac ends with", failed, 0);
             if (failed == 0) {
                 Class<?> run = MethodHandles.lookup().defineClass(Files.readAllBytes(out.resolve(RUN + ".class")));

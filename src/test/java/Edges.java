@@ -65,7 +65,10 @@ final class Edges {
         return this;
     }
 
-    /** A deed on one of two twins, with the answer that is due: behind it both are still alike. */
+    /**
+     * "What is refused answers as told and changes nothing": a deed on one of two twins, with the answer that is due;
+     * behind it both are still alike.
+     */
     static void unchanged(String what, Supplier<BuriedPairs> maker, Deed deed, long due) {
         BuriedPairs asked = maker.get();
         Check.due(what, deed.on(asked), due);

@@ -52,6 +52,7 @@ public final class PromisesTest {
         Check.finish("PromisesTest");
     }
 
+    // Promise 1: "Nothing is told."
     private static void nothingIsTold() {
         BuriedPairs town = new BuriedPairs();
         for (int what = 0; what <= 6; what++) {
@@ -86,6 +87,9 @@ public final class PromisesTest {
         Check.due("moves", town.moves(0, 0, 1, NONE), NONE);
     }
 
+    // "c A B K L (a CABLE from BOX A to BOX B, A below B, none coming to B so far; K PAIRS, 1 .. 6, numbered 0 ..; L
+    // metres, 1 .. 99; CABLES are numbered as told)"
+    // Promise 6: "Of a CABLE: 0 A, 1 B, 2 PAIRS, 3 metres. NoSuchElementException: no such ones."
     private static void cablesAreTold() {
         BuriedPairs town = Check.town(ROW);
         int[][] due = {{0, 1, 4, 10}, {1, 2, 3, 20}, {2, 3, 2, 30}, {1, 4, 2, 7}, {5, 6, 1, 9}};
@@ -104,6 +108,10 @@ public final class PromisesTest {
         Check.refusesCable(town, 0, MAX, 3);
     }
 
+    // "j X P Y Q (a JOINT: PAIR P of CABLE X goes on as PAIR Q of CABLE Y, which begins in the BOX where X ends; what
+    // was joined there to either of both is so no more)"
+    // Promise 7: "To what a PAIR's far end is joined, with all SLIPS done: 8 times the CABLE and the PAIR. NONE: to
+    // none, no such ones."
     private static void joints() {
         BuriedPairs town = Check.town("b 4;c 0 1 3 5;c 1 2 3 5;c 1 3 2 5;j 0 0 1 2;j 0 1 2 1;j 0 0 1 1;j 0 2 1 1");
         Check.due("the later joint took pair 1 of cable 1", town.joint(0, 0, 0), NONE);
@@ -120,6 +128,10 @@ public final class PromisesTest {
         Check.due("no plan -1", town.joint(-1, 0, 0), NONE);
     }
 
+    // "h X P H (HOUSE H, 0 .. 9, hangs at PAIR P of CABLE X, at its far end; whatever hung there, and where H hung,
+    // is no more)"
+    // Promise 8: "Where a HOUSE hangs, with all SLIPS done: 8 times the CABLE and the PAIR. NONE: nowhere, no such
+    // ones."
     private static void houses() {
         BuriedPairs town = Check.town("b 3;c 0 1 3 5;c 0 2 3 5;h 0 0 1;h 0 0 2;h 1 2 3;h 1 1 3;h 1 0 0;h 1 0 0;h 0 2 9");
         Check.due("house 1 was put away", town.house(0, 1), NONE);
@@ -134,6 +146,8 @@ public final class PromisesTest {
         Check.due("no plan -1", town.house(-1, 2), NONE);
     }
 
+    // "SLIPS (6 at most of a PLAN) are told by hand: a JOINT, or a HOUSE, as j and h; in their order they come behind
+    // the PLAN's TEXT."
     private static void slips() {
         BuriedPairs town = Check.town(ROW);
         Check.due("a joint", town.slip(0, 0, 0, 3, 1, 2), 0);
@@ -156,6 +170,7 @@ public final class PromisesTest {
         Check.due("six", town.count(4), 6);
     }
 
+    // Promise 9: "NONE: no such ones, there are six."
     private static void slipsThatAreRefused() {
         BuriedPairs town = Check.town(ROW);
         Check.due("no kind 2", town.slip(0, 2, 0, 0, 1, 0), NONE);
@@ -180,6 +195,7 @@ public final class PromisesTest {
         Check.due("nothing changed", town.joint(0, 0, 0), 8);
     }
 
+    // "FAULTS (10 at most of a PLAN)", "A WORLD is a set of FAULTS (bits) that are so."
     private static void troubles() {
         BuriedPairs town = Check.town(ROW);
         Check.due("none", town.troubles(0), 0);
@@ -203,6 +219,7 @@ public final class PromisesTest {
         Check.due("no plan -1", town.troubles(-1), NONE);
     }
 
+    // Promise 10: "NONE: no such ones, alike, there are ten."
     private static void troublesThatAreRefused() {
         BuriedPairs town = Check.town(ROW);
         Check.due("no kind 4", town.trouble(0, 4, 0, 0, 1, 0), NONE);
@@ -226,6 +243,9 @@ public final class PromisesTest {
         Check.due("none was taken", town.troubles(0), 0);
     }
 
+    // "0 SWAP: PAIRS P and Q of a CABLE are crossed at its far end (several: one behind the other, as told)"
+    // "WIRES: a PAIR of a CABLE, at its near end P, comes out at its far end as that with which it is crossed (as P
+    // without a SWAP), but for BREAKS; JOINTS and HOUSES are at far ends as the numbers there are told."
     private static void swaps() {
         BuriedPairs town = Check.town("b 3;c 0 1 3 5;c 1 2 3 5;j 0 0 1 0;j 0 1 1 1;j 0 2 1 2");
         town.trouble(0, 0, 0, 0, 1, 0);
@@ -242,6 +262,8 @@ public final class PromisesTest {
         Check.due("back from the end of the row", town.heard(0, 3, false, 1, 2, 1, 0, 0), 1);
     }
 
+    // "1 BREAK: PAIR P (as at the near end) is cut d metres from there (0 .. L)"
+    // "(A BREAK at 0 cuts it off from its near end, one at L from its far end: a TOUCH at L lies behind one there.)"
     private static void breaks() {
         BuriedPairs town = Check.town("b 3;c 0 1 2 5;c 1 2 2 5;j 0 0 1 0;j 0 1 1 1");
         town.trouble(0, 1, 1, 0, 0, 0);
@@ -259,6 +281,10 @@ public final class PromisesTest {
         Check.due("all three", town.heard(0, 7, false, 1, 0, 0, 0, 0), 1);
     }
 
+    // "2 TOUCH: PAIRS P and Q (likewise) touch d metres from there, when it is WET"
+    // "What lies at d metres is nearer than a BREAK at more than d, and behind one at d or less."
+    // "A TONE sent at a PAIR of a CABLE, at its near end (0) or far end (1, by the numbers there), goes along WIRES,
+    // JOINTS, TOUCHES (if WET); HEARD at an end of a CABLE: PAIRS (by the numbers there) to which it comes, as bits."
     private static void touches() {
         BuriedPairs town = Check.town("b 3;c 0 1 3 9;c 1 2 3 9;j 0 0 1 0;j 0 1 1 1");
         town.trouble(0, 2, 0, 0, 1, 4);
@@ -286,6 +312,7 @@ public final class PromisesTest {
         Check.due("on the far side of it", other.heard(0, 3, true, 0, 0, 1, 0, 0), 2);
     }
 
+    // "3 UNDONE: a SLIP was never done."
     private static void undoneSlips() {
         BuriedPairs town = Check.town("b 3;c 0 1 3 5;c 1 2 3 5;j 0 0 1 0;h 1 0 4");
         town.slip(0, 0, 0, 1, 1, 0);
@@ -305,6 +332,8 @@ public final class PromisesTest {
         Check.due("as the plan has it with all slips", town.house(0, 4), 9);
     }
 
+    // Promise 12: "HEARD of a TONE sent at PAIR p of CABLE x, at an end (0, 1), at an end of CABLE y. NONE: no such
+    // ones, WORLD."
     private static void heardIsRefused() {
         BuriedPairs town = Check.town(ROW);
         town.trouble(0, 1, 0, 0, 0, 0);
@@ -322,6 +351,9 @@ public final class PromisesTest {
         Check.due("no end to listen", town.heard(0, 0, true, 0, 0, 0, 2, 2), NONE);
     }
 
+    // "METRES at a PAIR of a CABLE, at an end: from there along the WIRE", "else to the other end and, if a JOINT is
+    // there, on from it (into the next CABLE away from the EXCHANGE, or, at a near end, into that before), and so on;
+    // how far, times 4, and 1 if it ends where a HOUSE hangs, 2 at a TOUCH, else 0."
     private static void metresAlongWires() {
         BuriedPairs town = Check.town(ROW);
         Check.due("to house 1", town.metres(0, 0, false, 0, 0, 0), 4 * 60 + 1);
@@ -345,6 +377,7 @@ public final class PromisesTest {
         Check.due("and back", longest.metres(0, 0, true, 6, 0, 1), 4 * 693);
     }
 
+    // "else to the first BREAK, else to the other end"
     private static void metresToBreaks() {
         BuriedPairs town = Check.town("b 3;c 0 1 2 9;c 1 2 2 9;j 0 0 1 0;h 1 0 0;h 0 1 1");
         town.trouble(0, 1, 0, 0, 0, 0);
@@ -364,6 +397,7 @@ public final class PromisesTest {
         Check.due("or to its break at 0", town.metres(0, 1, false, 1, 0, 1), 4 * 18);
     }
 
+    // "to the first TOUCH (if WET; also one at where one stands), else to the first BREAK"
     private static void metresToTouches() {
         BuriedPairs town = Check.town("b 3;c 0 1 2 9;c 1 2 2 9;j 0 0 1 0;h 1 0 0");
         town.trouble(0, 2, 0, 0, 1, 4);
@@ -397,6 +431,7 @@ public final class PromisesTest {
         Check.due("from the far end the touch, at once", other.metres(0, 12, true, 0, 0, 1), 2);
     }
 
+    // Promise 13: "NONE: no such ones, WORLD."
     private static void metresIsRefused() {
         BuriedPairs town = Check.town(ROW);
         Check.due("no plan", town.metres(1, 0, false, 0, 0, 0), NONE);
@@ -410,6 +445,9 @@ public final class PromisesTest {
         Check.due("no end -1", town.metres(0, 0, false, 0, 0, -1), NONE);
     }
 
+    // "A HOUSE is FED by the PAIRS of CABLES that begin at the EXCHANGE (numbered through, CABLE by CABLE, PAIR by
+    // PAIR) from which a TONE, sent at the near end, comes to where it hangs.", "BOX 0 is the EXCHANGE"
+    // Promise 14: "By which PAIRS a HOUSE is FED, as bits. NONE: it hangs nowhere, no such ones."
     private static void fedByTheExchange() {
         BuriedPairs town = Check.town("b 8;c 0 7 6 9;c 0 6 6 9;c 0 5 6 9;c 0 4 6 9;c 0 3 6 9;c 0 2 6 9;c 0 1 6 9;h 6 5 0;h 0 0 1;h 3 2 2");
         Check.due("the last pair of seven cables", town.fed(0, 0, false, 0), 1L << 41);
@@ -428,6 +466,8 @@ public final class PromisesTest {
         Check.due("behind those of the cable before", row.fed(0, 0, false, 3), 8);
     }
 
+    // "SERVED: by one just, and by that no other HOUSE."
+    // Promise 15: "HOUSES that are SERVED, as bits. NONE: no such ones."
     private static void served() {
         BuriedPairs town = Check.town("b 3;c 0 1 3 9;c 1 2 3 9;j 0 0 1 0;j 0 1 1 1;h 1 0 1;h 1 1 2;h 0 2 9;h 1 2 5");
         Check.due("1, 2 and 9; 5 is fed by none", town.served(0, 0, false), 2 | 4 | 512);
@@ -448,6 +488,8 @@ public final class PromisesTest {
         Check.due("no plan", town.served(1, 0, false), NONE);
     }
 
+    // "NEIGHBOURS of a HOUSE: others to which a TONE from where it hangs comes."
+    // Promise 16: "NEIGHBOURS, as bits. NONE: it hangs nowhere, no such ones."
     private static void neighbours() {
         BuriedPairs town = Check.town("b 3;c 0 1 3 9;c 1 2 3 9;j 0 0 1 0;j 0 1 1 1;h 1 0 1;h 1 1 2;h 0 0 9");
         town.trouble(0, 2, 0, 0, 1, 4);
@@ -471,6 +513,9 @@ public final class PromisesTest {
         Check.due("no plan", town.neighbours(1, 0, false, 1), NONE);
     }
 
+    // "SPARE at a BOX (but 0): PAIRS of the CABLE that comes there (by the numbers of its far end) that some PAIR of
+    // the EXCHANGE feeds, that lead to no HOUSE and to no JOINT there, as bits."
+    // Promise 17: "SPARE at a BOX (not WET). NONE: no CABLE comes there, no such ones."
     private static void spares() {
         BuriedPairs town = Check.town("b 4;c 0 1 4 9;c 1 2 4 9;j 0 0 1 0;j 0 1 1 1;h 0 1 1;h 0 2 2;h 1 0 3");
         Check.due("neither joined nor with a house", town.spare(0, 0, 1), 8);
@@ -492,6 +537,8 @@ public final class PromisesTest {
         Check.due("not fed by the exchange", lone.spare(0, 0, 2), 0);
     }
 
+    // "TESTS (12 at most of a PLAN): 0 TONE: where it is sent (CABLE, PAIR, end), a CABLE and end where one listens;
+    // 1 METRES: where."
     private static void testsAndTells() {
         BuriedPairs town = Check.town(ROW);
         town.trouble(0, 2, 0, 0, 1, 5);
@@ -513,6 +560,7 @@ public final class PromisesTest {
         Check.due("twelve", town.count(5), 12);
     }
 
+    // Promise 18: "NONE: no such ones, there are twelve."
     private static void testsThatAreRefused() {
         BuriedPairs town = Check.town(ROW);
         Check.due("no kind 2", town.test(0, 2, 0, 0, 0, 0, 0), NONE);
@@ -529,6 +577,8 @@ public final class PromisesTest {
         Check.due("none was taken", town.count(5), 0);
     }
 
+    // "READINGS (24 at most): a TEST, WET or not, what it told."
+    // Promise 20: "A READING: how many there are. NONE: no such TEST, told below 0, there are 24."
     private static void readings() {
         BuriedPairs town = Check.town(ROW);
         town.test(0, 1, 0, 0, 0, 0, 0);
@@ -551,6 +601,7 @@ public final class PromisesTest {
         Check.due("it fits", town.fitting(0, NONE), 1);
     }
 
+    // "FITTING: WORLDS by which each READING is as told"
     private static void fitting() {
         BuriedPairs town = Check.town("b 2;c 0 1 2 9");
         Check.due("one world without faults", town.fitting(0, NONE), 1);
@@ -596,6 +647,7 @@ public final class PromisesTest {
         Check.due("no plan -1", town.fitting(-1, NONE), NONE);
     }
 
+    // "FEWEST: with the fewest FAULTS (of several the set with the lower FAULT where two first differ)."
     private static void fewest() {
         BuriedPairs town = Check.town("b 2;c 0 1 4 9");
         town.test(0, 0, 0, 0, 0, 0, 1);
@@ -645,6 +697,8 @@ public final class PromisesTest {
         Check.due("the fewest", town.fewest(0), 9);
     }
 
+    // "SURE: FAULTS in all FITTING WORLDS; MAY: in some."
+    // Promise 24: "SURE (0), MAY (1), as bits. NONE: none fits, no such ones."
     private static void sureAndMay() {
         BuriedPairs town = Check.town("b 2;c 0 1 2 9");
         town.test(0, 1, 0, 0, 0, 0, 0);
@@ -664,6 +718,8 @@ public final class PromisesTest {
         Check.due("none fits, may", town.sure(0, 1), NONE);
     }
 
+    // "A TEST, WET or not, PARTS the FITTING WORLDS by what it would tell: LARGEST: how many tell the same at most;
+    // KINDS: how many things could be told."
     private static void parts() {
         BuriedPairs town = Check.town("b 2;c 0 1 2 9");
         town.test(0, 1, 0, 0, 0, 0, 0);
@@ -692,6 +748,9 @@ public final class PromisesTest {
         Check.due("none fits: nothing is told", town.parts(0, 0, false, 1), 0);
     }
 
+    // "NEXT from a BOX with so many metres to walk: the TEST whose BOX is no farther with the least LARGEST; of
+    // several the nearer one, then the lower number."
+    // Promise 26: "NONE: there is none, none fits, no such ones, far below 0."
     private static void next() {
         BuriedPairs town = Check.town(ROW);
         Check.due("no tests", town.next(0, false, 0, 100), NONE);
@@ -725,6 +784,8 @@ public final class PromisesTest {
         Check.due("what parts those that fit", town.next(0, false, 0, 1000), 4);
     }
 
+    // "WALK from BOX to BOX: metres along CABLES; there may be no way."
+    // Promise 27: "NONE: no way, no such ones."
     private static void walks() {
         BuriedPairs town = Check.town(ROW);
         Check.due("along the row", town.walk(0, 0, 3), 60);
@@ -741,6 +802,9 @@ public final class PromisesTest {
         Check.due("no plan -1", town.walk(-1, 0, 0), NONE);
     }
 
+    // "DISTANCE of a BREAK of a PAIR (by its near end): d (0 .. L) by which, this being the only FAULT, each METRES
+    // READING (not WET) is no more than e metres off what it would tell: the least and the greatest."
+    // Promise 28: "NONE: none, no such ones, e below 0."
     private static void distances() {
         BuriedPairs town = Check.town(ROW);
         town.trouble(0, 1, 0, 0, 0, 2);
@@ -780,6 +844,10 @@ public final class PromisesTest {
         Check.due("d is L", far.distance(0, 0, 0, 0, 0), 99);
     }
 
+    // "WANTED: of a HOUSE a PAIR at the far end of the CABLE where it hangs", "by hand; none at first; refused, if
+    // another HOUSE on that CABLE wants it"
+    // Promise 29: "A HOUSE wants a PAIR (NONE: none). False: it hangs nowhere, no such ones, another one on that
+    // CABLE wants it."
     private static void wants() {
         BuriedPairs town = Check.town("b 3;c 0 1 3 9;c 0 2 2 9;h 0 0 1;h 0 1 2;h 1 0 3");
         Check.due("a pair", town.want(0, 1, 2), true);
@@ -803,6 +871,7 @@ public final class PromisesTest {
         Check.due("2 goes to 2", town.moves(0, 0, 1, 0), 18);
     }
 
+    // "(as the PLAN and all SLIPS tell"
     private static void wantsAcrossSlips() {
         BuriedPairs town = Check.town("b 3;c 0 1 3 9;c 0 2 2 9;h 0 0 1;h 0 1 2");
         Check.due("none hangs", town.want(0, 5, 0), false);
@@ -817,6 +886,9 @@ public final class PromisesTest {
         Check.due("what it wants stands in no one's way", town.want(0, 1, 0), true);
     }
 
+    // "one at a time, each to a FREE PAIR (by the numbers of the far end)", "Each time the lowest HOUSE that is not
+    // on the PAIR it wants, while that is FREE, goes there"
+    // Promise 30: "NONE: without, no CABLE comes there, no such ones."
     private static void moves() {
         BuriedPairs town = Check.town("b 2;c 0 1 4 9;h 0 0 3;h 0 1 5;h 0 2 7");
         Check.due("none wanted", town.moves(0, 0, 1, NONE), 0);
@@ -844,6 +916,8 @@ public final class PromisesTest {
         Check.due("then the other", lowest.moves(0, 0, 1, 1), 8 * 9 + 3);
     }
 
+    // "if there is none such, the lowest of those not on the PAIR they want, where another HOUSE hangs that wants
+    // one, too, and is not on it, and that have not gone so yet, goes to the lowest FREE PAIR"
     private static void movesAside() {
         BuriedPairs town = Check.town("b 2;c 0 1 6 9;h 0 0 0;h 0 1 1;h 0 2 2;h 0 3 3");
         town.want(0, 0, 1);
@@ -873,6 +947,8 @@ public final class PromisesTest {
         }
     }
 
+    // "MOVES at a BOX, by a WORLD (not WET), of HOUSES that hang at the CABLE that comes there in that WORLD"
+    // "one at which none hangs then, without a JOINT, to which a TONE from some PAIR of the EXCHANGE comes"
     private static void movesInWorlds() {
         BuriedPairs town = Check.town("b 3;c 0 1 5 9;c 1 2 1 9;j 0 4 1 0;h 0 0 1;h 0 1 2");
         town.slip(0, 1, 0, 2, 1, 0);
@@ -894,6 +970,7 @@ public final class PromisesTest {
         Check.due("none hangs in box 2", town.moves(0, 0, 2, NONE), 0);
     }
 
+    // "it ends when neither can be"
     private static void movesThatEnd() {
         BuriedPairs town = Check.town("b 2;c 0 1 3 9;h 0 0 0;h 0 1 1");
         town.trouble(0, 1, 0, 0, 0, 4);
@@ -920,6 +997,8 @@ public final class PromisesTest {
         Check.due("last home", all.moves(0, 0, 1, 5), 1);
     }
 
+    // Promise 31: "0 PLANS, 1 bytes of the TAPE; of PLAN 0: 2 BOXES, 3 CABLES, 4 SLIPS, 5 TESTS, 6 READINGS (0
+    // without one). NONE for others."
     private static void counts() {
         BuriedPairs town = Check.town(ROW);
         Check.feed(town, "b 2");
@@ -939,6 +1018,7 @@ public final class PromisesTest {
         Check.due("count MAX", town.count(MAX), NONE);
     }
 
+    // "PLANS (6 at most)": what is told of one is not told of another.
     private static void plansApart() {
         BuriedPairs town = Check.town(ROW);
         Check.due("a second plan", Check.plan(town, "b 2;c 0 1 2 9;h 0 0 0"), 1);

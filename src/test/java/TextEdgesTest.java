@@ -43,8 +43,9 @@ public final class TextEdgesTest {
     }
 
     /**
-     * A number behind a text: all of one digit and of two, those from low to high are taken. One that is not is wrong
-     * at its last digit; behind one that is the text goes on, or is whole.
+     * "Numbers of one or two digits (one out of bounds, of one digit too, is wrong at its last digit": a number behind
+     * a text, all of one digit and of two; those from low to high are taken, and behind them the text goes on, or is
+     * whole.
      */
     private static void number(String before, int low, int high, boolean last) {
         for (int value = 0; value < 100; value++) {

@@ -12,6 +12,7 @@ public final class ReadingEdgesTest {
         testOfMetres();
         testOfNoSuchKind();
         twelveTests();
+        refusedTestsChangeNoOther();
         tellsOfNoSuchOnes();
         tellsWhatHeardAndMetresTell();
         tellsAtEachEndOfEachCable();
@@ -99,6 +100,30 @@ public final class ReadingEdgesTest {
         Edges.unchanged("a thirteenth, a tone", Towns::full, t -> t.test(0, 0, 0, 0, 0, 0, 0), NONE);
         Edges.unchanged("a thirteenth, metres", Towns::full, t -> t.test(0, 1, 0, 0, 0, 0, 0), NONE);
         Edges.unchanged("a thirteenth that is none", Towns::full, t -> t.test(0, 2, 0, 0, 0, 0, 0), NONE);
+    }
+
+    // "What is refused .. changes nothing": the tests that are stand as they were told.
+    private static void refusedTestsChangeNoOther() {
+        Supplier<BuriedPairs> maker = () -> {
+            BuriedPairs town = Check.town(Towns.TEXT);
+            town.test(0, 1, 1, 0, 1, 0, 0);
+            town.test(0, 0, 0, 5, 1, 1, 1);
+            town.test(0, 1, 3, 1, 1, 0, 0);
+            return town;
+        };
+        Check.due("29 metres back from house 1", maker.get().tells(0, 0, 0, false), 116);
+        Check.due("heard on pair 3", maker.get().tells(0, 1, 0, false), 8);
+        Check.due("24 metres back from house 3", maker.get().tells(0, 2, 0, false), 96);
+        new Edges("test beside others", maker, ReadingEdgesTest::test, NONE, 0, 0, 0, 0, 0, 1, 1)
+            .refuses(0, 2, 0, 0, 0, 1, 1)
+            .refuses(0, 0, 4, 0, 0, 1, 1)
+            .refuses(0, 0, 0, 6, 0, 1, 1)
+            .refuses(0, 0, 0, 0, 2, 1, 1)
+            .refuses(0, 0, 0, 0, 0, 4, 1)
+            .refuses(0, 0, 0, 0, 0, 1, 2)
+            .refuses(0, 1, 4, 0, 0, 0, 0)
+            .refuses(0, 1, 0, 6, 0, 0, 0)
+            .refuses(0, 1, 0, 0, 2, 0, 0);
     }
 
     // Promise 19: "NONE: no such ones."
